@@ -257,12 +257,26 @@ public final class LockTest {
         check.due("another one with the number", bench.valueOf(1, 0, MAKE, 0, 0, 5), 1);
         check.due("has none", x.lock(0, 1, 9), 0);
         bench.openFile(0);
-        bench.done(0, 0, s(LOCK, 1, 0, 9, SHARED));
+        bench.done(0, 0, s(LOCK, 1, 0, 4, SHARED), s(LOCK, 1, 5, 9, ALONE));
+        bench.done(1, 0, s(REMOVE, 0, 0, 5), s(MAKE, 0, 0, 5));
+        check.due("shared ones are gone", x.lock(0, 1, 0), 0);
+        check.due("and alone ones", x.lock(0, 1, 9), 0);
+        removedWithItsFormerLocks();
+    }
+
+    private static void removedWithItsFormerLocks() {
+        Bench bench = bench();
+        SlotServer x = bench.x;
+        bench.done(0, 0, s(LOCK, 1, 0, 4, SHARED), s(LOCK, 1, 5, 9, ALONE));
         restart(bench);
-        check.due("former", x.lock(0, 1, 9), FORMER_SHARED);
+        check.due("former shared", x.lock(0, 1, 0), FORMER_SHARED);
+        check.due("former alone", x.lock(0, 1, 9), FORMER_ALONE);
         bench.done(1, 0, s(REMOVE, 0, 0, 5), s(MAKE, 0, 0, 5));
         check.due("made again", x.value(1, 0, 1), 1);
-        check.due("former ones are gone, too", x.lock(0, 1, 9), 0);
+        check.due("former shared ones are gone, too", x.lock(0, 1, 0), 0);
+        check.due("former alone ones are gone, too", x.lock(0, 1, 9), 0);
+        bench.openFile(0);
+        check.due("so they can't be claimed", bench.one(0, 0, CLAIM, 1, 9, 9, ALONE), LOST);
     }
 
     private static void graceKeepsOthersOff() {
@@ -318,12 +332,15 @@ public final class LockTest {
         check.due("and no more former", bench.one(0, 0, CLAIM, 1, 1, 1, ALONE), LOST);
         check.due("shared ones", bench.one(0, 0, CLAIM, 1, 4, 6, SHARED), OK);
         check.due("shared", x.lock(0, 1, 6), SHARED);
+        bench.done(0, 0, s(UNLOCK, 1, 6, 7));
+        check.due("no lock and no more former", x.lock(0, 1, 6), 0);
+        check.due("former still", x.lock(0, 1, 7), FORMER_SHARED);
     }
 
     private static void graceEnds() {
         Bench bench = bench();
         SlotServer x = bench.x;
-        bench.done(0, 0, s(LOCK, 1, 0, 3, ALONE));
+        bench.done(0, 0, s(LOCK, 1, 0, 3, ALONE), s(LOCK, 1, 4, 4, SHARED));
         restart(bench);
         x.time(100);
         bench.done(0, 0, s(CLAIM, 1, 0, 0, ALONE));
@@ -332,6 +349,7 @@ public final class LockTest {
         check.due("former still", x.lock(0, 1, 1), FORMER_ALONE);
         x.time(1);
         check.due("former is gone", x.lock(0, 1, 1), 0);
+        check.due("former shared is gone", x.lock(0, 1, 4), 0);
         check.due("claimed is not", x.lock(0, 1, 0), ALONE);
         check.due("what is left of its lease", x.lease(0), 100);
         check.due("CLAIM after grace", bench.one(0, 0, CLAIM, 1, 1, 1, ALONE), LOST);

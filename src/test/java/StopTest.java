@@ -181,7 +181,7 @@ public final class StopTest {
         bench.openFile(1);
         bench.done(0, 1, s(10, 1, 0, 3, 2), s(10, 1, 8, 9, 1));
         x.stop(3);
-        int d = bench.sent(0, 1, s(11, 1, 0, 1), s(10, 1, 2, 2, 1), s(10, 1, 20, 20, 2));
+        int d = bench.sent(0, 1, s(11, 1, 0, 1), s(11, 1, 8, 8), s(10, 1, 2, 2, 1), s(10, 1, 20, 20, 2));
         check.due("torn", x.carry(d, false), TORN);
         x.boot();
         int[] due = {6, 6, 6, 6, 0, 0, 0, 0, 5, 5};
@@ -189,16 +189,19 @@ public final class StopTest {
             check.due("lock on " + i, x.lock(0, 1, i), due[i]);
         }
         check.due("never locked", x.lock(0, 1, 20), 0);
-        x.stop(1);
-        int claim = bench.sent(0, 0, s(13, 1, 0, 3, 2));
+        x.stop(2);
+        int claim = bench.sent(0, 0, s(13, 1, 0, 3, 2), s(13, 1, 8, 9, 1), s(11, 1, 9, 9));
         check.due("a torn claim", x.carry(claim, false), TORN);
         x.boot();
         check.due("former still", x.lock(0, 1, 0), 6);
-        check.due("so it can be claimed", x.carry(claim, false), DONE);
+        check.due("shared, too", x.lock(0, 1, 9), 5);
+        check.due("so they can be claimed", x.carry(claim, false), DONE);
         check.due("a lock again", x.lock(0, 1, 0), 2);
+        check.due("a shared one", x.lock(0, 1, 8), 1);
+        check.due("one that was unlocked", x.lock(0, 1, 9), 0);
         check.due("the torn one was done in grace", x.carry(d, false), DONE);
-        check.due("UNLOCK first", x.code(0, 1, 0), SlotServer.OK);
-        check.due("then grace", x.code(0, 1, 1), SlotServer.GRACE);
+        check.due("UNLOCK first", x.code(0, 1, 1), SlotServer.OK);
+        check.due("then grace", x.code(0, 1, 2), SlotServer.GRACE);
         check.due("unlocked", x.lock(0, 1, 0), 0);
         check.due("the others stay", x.lock(0, 1, 3), 2);
     }

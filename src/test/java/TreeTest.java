@@ -238,6 +238,9 @@ public final class TreeTest {
             check.due("HELD " + n[0] + " " + n[1], bench.one(0, 0, HELD, 1, n[0], n[1]), BAD);
         }
         check.due("no bytes yet", bench.x.node(1, 3), 0);
+        check.due("byte 0", bench.valueOf(0, 0, WRITE, 1, 0, 5), 1);
+        check.due("the byte behind it", bench.valueOf(0, 0, WRITE, 1, 1, 6), 2);
+        check.due("byte 0 again", bench.valueOf(0, 0, WRITE, 1, 0, 0), 2);
         check.due("byte 3", bench.valueOf(0, 0, WRITE, 1, 3, 200), 4);
         check.due("byte 1", bench.valueOf(0, 0, WRITE, 1, 1, 7), 4);
         check.due("byte 63", bench.valueOf(0, 0, WRITE, 1, 63, 0), 64);
@@ -264,6 +267,17 @@ public final class TreeTest {
         check.due("to none", bench.valueOf(0, 0, SIZE, 1, 0), 12);
         check.due("a write behind it", bench.valueOf(0, 0, WRITE, 1, 20, 1), 21);
         check.due("bytes before it are 0", bench.valueOf(0, 0, READ, 1, 10), 0);
+        filesAreApart();
+    }
+
+    private static void filesAreApart() {
+        Bench bench = new Bench();
+        bench.done(0, 0, s(ROOT, 0), s(MAKE, 0, 0, 1), s(MAKE, 0, 0, 2), s(WALK, 0, 1, 1));
+        bench.done(0, 0, s(WALK, 0, 2, 2), s(WRITE, 2, 0, 44), s(WRITE, 1, 63, 33), s(SIZE, 1, 5));
+        check.due("the other's first byte", bench.valueOf(0, 0, READ, 2, 0), 44);
+        check.due("the other has one byte", bench.x.node(2, 3), 1);
+        bench.done(0, 0, s(SIZE, 1, 64), s(SIZE, 2, 0), s(WRITE, 1, 63, 33), s(REMOVE, 0, 0, 2));
+        check.due("the last byte beside one that is gone", bench.valueOf(0, 0, READ, 1, 63), 33);
     }
 
     private static void listing() {
