@@ -167,7 +167,7 @@ public final class EdgeCallTest {
             x.start(3);
             check.due("of another life", b.sent(3, 2, s(Ops.ROOT)), 2);
         });
-        // A step, a send and 300 of each are more than the 512 calls of an object: the bound is kept all the same.
+        // 300 steps and 300 sends are more than the 512 calls of an object: the bound is kept all the same.
         edge("300 at most", (b, x) -> {
             for (int i = 0; i < 300; i++) {
                 check.due("datagram", x.carry(b.sent(0, 0, s(Ops.ROOT, i % 8)), false), DONE);

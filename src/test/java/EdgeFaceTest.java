@@ -24,6 +24,7 @@ public final class EdgeFaceTest {
     }
 
     public static void main(String[] args) {
+        aNewObject();
         noSuchClient();
         noSuchSlot();
         whatElseIsTold();
@@ -60,6 +61,45 @@ public final class EdgeFaceTest {
             check.due("it stopped behind it", s.x.runs(), false);
             check.due("its first step", s.x.handle(0, 3), ran ? 0 : Ops.NONE);
             check.due("the next life", s.x.start(0), 2);
+        });
+    }
+
+    private static void aNewObject() {
+        check.sentence("A new object: the root alone", () -> {
+            SlotServer x = new SlotServer();
+            check.due("nodes", x.nodes(), 1);
+            check.due("the root is a directory", x.node(0, 0), 1);
+            for (int node = 1; node < 32; node++) {
+                check.due("node " + node, x.node(node, 0), Ops.NONE);
+            }
+        });
+        check.sentence("A new object: no handles", () -> {
+            SlotServer x = new SlotServer();
+            for (int i = 0; i < 32; i++) {
+                check.due("handle " + i % 8, x.handle(i / 8, i % 8), Ops.NONE);
+            }
+        });
+        check.sentence("A new object: the server runs", () -> {
+            SlotServer x = new SlotServer();
+            check.due("runs", x.runs(), true);
+            check.illegalState("boot", x::boot);
+        });
+        check.sentence("A new object: no grace", () -> {
+            Bench b = new Bench();
+            b.openFile(0);
+            check.due("LOCK", b.one(0, 0, Ops.LOCK, 1, 0, 63, 2), Ops.OK);
+            check.due("CLAIM", b.one(0, 0, Ops.CLAIM, 1, 0, 63, 2), Ops.LOST);
+        });
+        check.sentence("A new object has nothing of another one", () -> {
+            Scene other = new Scene(check);
+            other.x.time(5);
+            other.x.stop(Ops.NONE);
+            SlotServer x = new SlotServer();
+            check.due("nodes", x.nodes(), 1);
+            check.due("time", x.time(0), 0);
+            check.due("runs", x.runs(), true);
+            check.due("life", x.start(0), 1);
+            check.due("the other's life", other.x.start(0), 2);
         });
     }
 

@@ -503,7 +503,7 @@ public final class EdgeLockTest {
             s.refused(Ops.LOST, Ops.HELD, FILE, 1, 1);
             s.accepted(Ops.HELD, FILE, 0, 1);
         });
-        edge("a lease that ends in the time of grace takes no former locks", s -> {
+        edge("a claimed lock is former again when the server stops and begins anew", s -> {
             s.restarted().with(Ops.CLAIM, FILE, 0, 0, ALONE);
             s.x.stop(Ops.NONE);
             s.x.time(5);

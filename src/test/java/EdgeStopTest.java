@@ -330,6 +330,10 @@ public final class EdgeStopTest {
             check.due("the next call", s.bench.done(0, 2, s(Ops.ROOT)), DONE);
             check.due("the one before it", x.carry(d, false), NO_AVAIL);
         });
+        for (int i = 0; i < 12; i++) {
+            int at = i;
+            check.sentence("all is as it was written down: the answer before a call that was not, slot " + at, () -> answerStays(at));
+        }
         edge("what clients know is not the server's: it outlives a stop", (s, x) -> {
             s.bench.done(0, 1, s(Ops.READ, FILE, 9));
             x.step(0, 2, Ops.ROOT, 7, 0, 0, 0);
@@ -338,6 +342,27 @@ public final class EdgeStopTest {
             check.due("a call that is being built", x.step(0, 2, Ops.ROOT, 7, 0, 0, 0), 2);
             check.due("a life", x.start(1), 2);
         });
+    }
+
+    /** No client takes that answer any more, since it sent the next call: so the server itself is asked for it. */
+    private static void answerStays(int at) {
+        SlotServer.Server server = new SlotServer.Server();
+        SlotServer.Post post = new SlotServer.Post();
+        SlotServer.Desk desk = new SlotServer.Desk();
+        desk.addStep(Ops.ROOT, 0, 0, 0, 0);
+        desk.addStep(Ops.MAKE, 0, 0, 9, 0);
+        desk.open();
+        check.due("the first", server.write(post, post.put(at / 3, at % 3, 1, desk)), DONE);
+        desk.take(new SlotServer.Answer());
+        desk.addStep(Ops.ROOT, 8, 0, 0, 0);
+        desk.open();
+        server.told = 0;
+        check.due("the second", server.write(post, post.put(at / 3, at % 3, 1, desk)), TORN);
+        server.beginAnew();
+        check.due("the first again", server.fateOf(post, 0), AGAIN);
+        check.due("its steps", server.disk.answers[at].done, 2);
+        check.due("its first code", server.disk.answers[at].codes[0], Ops.OK);
+        check.due("its second value", server.disk.answers[at].values[1], 1);
     }
 
     private static void askedWhenItDoesNotRun() {
