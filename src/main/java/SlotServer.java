@@ -658,9 +658,9 @@ public final class SlotServer {
 
     /** Does the steps of one call, one by one; each method answers the code of the step in hand. */
     static final class Worker {
-        final Disk disk;
-        final Tree tree;
-        final Locks locks;
+        final Disk disk = new Disk();
+        final Tree tree = disk.tree;
+        final Locks locks = disk.locks;
         int client;
         int now;
         boolean grace;
@@ -671,12 +671,6 @@ public final class SlotServer {
         int c;
         int node;
         int result;
-
-        Worker(Disk disk) {
-            this.disk = disk;
-            tree = disk.tree;
-            locks = disk.locks;
-        }
 
         void workFor(int forClient, int atTime, boolean inGrace) {
             client = forClient;
@@ -949,9 +943,9 @@ public final class SlotServer {
     }
 
     static final class Server {
-        final Disk disk = new Disk();
+        final Worker worker = new Worker();
+        final Disk disk = worker.disk;
         final Disk kept = new Disk();
-        final Worker worker = new Worker(disk);
         boolean running = true;
         /** The sectors after which the next call stops the server, or NONE. */
         int told = NONE;

@@ -6,10 +6,22 @@ import java.util.TreeSet;
 /** The public face as the document writes it, and promise 1: what a new object is. */
 public final class FaceTest {
     private static final String[] METHODS = {
-        "int start(int)", "int step(int,int,int,int,int,int,int)", "int send(int,int)", "int carry(int,boolean)",
-        "int code(int,int,int)", "int value(int,int,int)", "void stop(int)", "void boot()", "int time(int)",
-        "boolean runs()", "int nodes()", "int node(int,int)", "int handle(int,int)", "int lock(int,int,int)",
-        "int lease(int)", "int wrong()",
+        "int start(int) IllegalArgumentException",
+        "int step(int,int,int,int,int,int,int) IllegalArgumentException IllegalStateException",
+        "int send(int,int) IllegalArgumentException IllegalStateException",
+        "int carry(int,boolean) IllegalArgumentException",
+        "int code(int,int,int) IllegalArgumentException",
+        "int value(int,int,int) IllegalArgumentException",
+        "void stop(int) IllegalArgumentException",
+        "void boot() IllegalStateException",
+        "int time(int) IllegalArgumentException",
+        "boolean runs()",
+        "int nodes()",
+        "int node(int,int) IllegalArgumentException",
+        "int handle(int,int) IllegalArgumentException",
+        "int lock(int,int,int) IllegalArgumentException",
+        "int lease(int) IllegalArgumentException",
+        "int wrong()",
     };
     private static final String[] CONSTANTS = {
         "OK", "STALE", "ABSENT", "EXISTS", "KIND", "FULL", "BAD", "NOT_EMPTY", "CIRCLE", "LOCKED", "LOST", "GRACE",
@@ -46,7 +58,11 @@ public final class FaceTest {
         for (int i = 0; i < m.getParameterCount(); i++) {
             text.append(i == 0 ? "" : ",").append(m.getParameterTypes()[i]);
         }
-        return text.append(')').toString();
+        text.append(')');
+        for (Class<?> thrown : m.getExceptionTypes()) {
+            text.append(' ').append(thrown.getSimpleName());
+        }
+        return text.toString();
     }
 
     private static void constants() throws Exception {
